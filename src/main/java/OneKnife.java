@@ -156,31 +156,11 @@ public final class OneKnife {
     }
 
     public int rule(int what, int v) {
-        int was;
-        switch (what) {
-            case 0:
-                if (v < 0 || v > 2) return BAD;
-                was = setting.rule;
-                setting.rule = v;
-                break;
-            case 1:
-                if (v < 0 || v > 2) return BAD;
-                was = setting.lending;
-                setting.lending = v;
-                break;
-            case 2:
-                if (v < 1 || v > MOST_HANDS) return BAD;
-                was = setting.hands;
-                setting.hands = v;
-                break;
-            case 3:
-                if (v < 1 || v > MOST_TICKS) return BAD;
-                was = setting.ticks;
-                setting.ticks = v;
-                break;
-            default:
-                return BAD;
+        if (what < 0 || what > 3 || v < leastOfRule(what) || v > mostOfRule(what)) {
+            return BAD;
         }
+        int was = setting.partOf(what);
+        setting.changePart(what, v);
         change();
         return was;
     }
@@ -409,10 +389,7 @@ public final class OneKnife {
             case 1: return setting.are;
             case 2: return bytes();
             case 3: return dropped;
-            case 4: return setting.rule;
-            case 5: return setting.lending;
-            case 6: return setting.hands;
-            case 7: return setting.ticks;
+            case 4: case 5: case 6: case 7: return setting.partOf(what - 4);
             case 8: return finding;
             default: return BAD;
         }
@@ -451,6 +428,17 @@ public final class OneKnife {
 
     private static boolean isTickEver(int tick) {
         return tick >= 0 && tick < MOST_TICKS;
+    }
+
+    private static int leastOfRule(int what) {
+        return what <= 1 ? 0 : 1;
+    }
+
+    private static int mostOfRule(int what) {
+        if (what <= 1) {
+            return 2;
+        }
+        return what == 2 ? MOST_HANDS : MOST_TICKS;
     }
 
     private boolean isTick(int tick) {
@@ -518,12 +506,15 @@ public final class OneKnife {
             }
         }
 
-        private boolean isBroken(int thing, int tick) {
-            return thing >= 0 && thing < THINGS && from[thing] <= tick && tick <= till[thing];
-        }
-
-        private int manyOf(int thing) {
-            return thing >= 0 && thing < THINGS ? many[thing] : 0;
+        /** As bits, those that are broken in a TICK. */
+        private int brokenIn(int tick) {
+            int bits = 0;
+            for (int i = 0; i < number && i < THINGS; i++) {
+                if (from[i] <= tick && tick <= till[i]) {
+                    bits |= 1 << i;
+                }
+            }
+            return bits;
         }
     }
 
@@ -746,8 +737,32 @@ public final class OneKnife {
             longerBy = other.longerBy;
         }
 
+        /** 0 RULE, 1 LENDING, 2 HANDS, 3 TICKS. */
+        private int partOf(int what) {
+            switch (what) {
+                case 0: return rule;
+                case 1: return lending;
+                case 2: return hands;
+                default: return ticks;
+            }
+        }
+
+        private void changePart(int what, int v) {
+            switch (what) {
+                case 0: rule = v; break;
+                case 1: lending = v; break;
+                case 2: hands = v; break;
+                default: ticks = v;
+            }
+        }
+
         private boolean has(int task) {
             return (are >> task & 1) != 0;
+        }
+
+        /** Whether a run can go otherwise by other RANKS. */
+        private boolean goesByRanks() {
+            return rule == BY_RANK || lending == UPWARD;
         }
 
         private int rankOf(int task) {
@@ -879,7 +894,7 @@ public final class OneKnife {
         }
 
         private int dueOf(int which) {
-            return comingOf(which) + plan.due;
+            return beginning + which * plan.span + plan.due;
         }
 
         private void meetJobs(int tick) {
@@ -991,6 +1006,7 @@ public final class OneKnife {
         private int going;
         private int working;
         private int waiting;
+        private int brokenNow;
         private int ringTick = NONE;
         private int ringBits;
         private boolean someLate;
@@ -1071,18 +1087,29 @@ public final class OneKnife {
         private void choose(int t) {
             working = 0;
             waiting = 0;
+            brokenNow = things.brokenIn(t);
             for (int h = 0; h < MOST_HANDS; h++) {
                 chosen[h * MOST_TICKS + t] = NONE;
             }
             int hand = 0;
             for (int n = 0; n < TASKS && hand < hands; n++) {
                 int task = next();
-                if (task == NONE) {
+                if (!isTask(task)) {
                     return;
                 }
-                if (comesToWork(task, t)) {
-                    chosen[hand * MOST_TICKS + t] = task;
-                    hand++;
+                switch (goOn(task)) {
+                    case WORK:
+                        working |= 1 << task;
+                        cooks[task].worked = t;
+                        chosen[hand * MOST_TICKS + t] = task;
+                        hand++;
+                        break;
+                    case TAKE:
+                        waiting |= 1 << task;
+                        lend();
+                        break;
+                    default:
+                        end(task, t);
                 }
             }
         }
@@ -1108,40 +1135,33 @@ public final class OneKnife {
             return best;
         }
 
-        private boolean comesToWork(int task, int t) {
-            if (!isTask(task)) {
-                return false;
-            }
+        /** Takes and gives back as far as it may: tells the kind of step it comes to, NONE at the end of its steps. */
+        private int goOn(int task) {
             Cook cook = cooks[task];
             Plan plan = cook.plan;
             for (int k = cook.step; k < plan.steps; k++) {
                 cook.step = k;
                 int kind = plan.kindAt(k);
                 if (kind == WORK) {
-                    working |= 1 << task;
-                    cook.worked = t;
-                    return true;
+                    return WORK;
                 }
                 int thing = plan.figureOfStep(k);
-                if (kind == TAKE) {
-                    if (mustWait(task, thing, t)) {
-                        waiting |= 1 << task;
-                        lend();
-                        return false;
-                    }
-                    cook.has |= 1 << thing;
-                } else {
+                if (kind == GIVE) {
                     cook.has &= ~(1 << thing);
+                } else if (mustWait(task, thing)) {
+                    return TAKE;
+                } else {
+                    cook.has |= 1 << thing;
                 }
             }
-            end(task, t);
-            return false;
+            return NONE;
         }
 
         /** Whether a TASK may not take a thing; then it also knows for whom it waits. */
-        private boolean mustWait(int task, int thing, int t) {
+        private boolean mustWait(int task, int thing) {
             Cook cook = cooks[task];
             int holders = 0;
+            int number = 0;
             int barrers = 0;
             for (int i = 0; i < TASKS; i++) {
                 if (i == task) {
@@ -1149,14 +1169,15 @@ public final class OneKnife {
                 }
                 if ((cooks[i].has >> thing & 1) != 0) {
                     holders |= 1 << i;
+                    number++;
                 }
                 if ((cooks[i].has & cook.barring) != 0) {
                     barrers |= 1 << i;
                 }
             }
-            boolean taken = Integer.bitCount(holders) >= things.manyOf(thing);
+            boolean taken = thing < 0 || thing >= THINGS || number >= things.many[thing];
             cook.waitsFor = taken ? holders | barrers : barrers;
-            return taken || barrers != 0 || things.isBroken(thing, t);
+            return taken || barrers != 0 || (brokenNow >> thing & 1) != 0;
         }
 
         /** Keys in force: who is waited for goes by the least key of those that wait, and of those that wait for them. */
@@ -1187,9 +1208,6 @@ public final class OneKnife {
         }
 
         private void end(int task, int when) {
-            if (!isTask(task)) {
-                return;
-            }
             Cook cook = cooks[task];
             if (when > cook.due) {
                 someLate = true;
@@ -1326,7 +1344,7 @@ public final class OneKnife {
                     bestThere = true;
                     return;
                 }
-                more = nextOrder(number);
+                more = trial.goesByRanks() && nextOrder(number);
             }
         }
 
@@ -1504,9 +1522,19 @@ public final class OneKnife {
             mendedKnown = true;
             trial.become(setting);
             for (int changes = 0; changes <= 2; changes++) {
-                for (int rule = 0; rule <= 2; rule++) {
-                    for (int lending = 0; lending <= 2; lending++) {
-                        if (mendsBy(changes, rule, lending)) {
+                for (int choice = 0; choice < 9; choice++) {
+                    trial.rule = choice / 3;
+                    trial.lending = choice % 3;
+                    int left = changes - changesOfRules();
+                    if (left == 0 && mends(changes, NONE, NONE)) {
+                        return;
+                    }
+                    // Where runs do not go by RANKS, one change less would have done the same.
+                    boolean byRanks = left == 1 && trial.goesByRanks();
+                    for (int pair = 0; byRanks && pair < TASKS * TASKS; pair++) {
+                        int a = pair / TASKS;
+                        int b = pair % TASKS;
+                        if (a < b && setting.has(a) && setting.has(b) && mends(changes, a, b)) {
                             return;
                         }
                     }
@@ -1515,26 +1543,9 @@ public final class OneKnife {
             keepMending(NONE, NONE, NONE);
         }
 
-        private boolean mendsBy(int changes, int rule, int lending) {
-            int left = changes;
-            left -= rule == setting.rule ? 0 : 1;
-            left -= lending == setting.lending ? 0 : 1;
-            trial.rule = rule;
-            trial.lending = lending;
-            if (left == 0) {
-                return mends(changes, NONE, NONE);
-            }
-            if (left != 1) {
-                return false;
-            }
-            for (int a = 0; a < TASKS; a++) {
-                for (int b = a + 1; b < TASKS; b++) {
-                    if (setting.has(a) && setting.has(b) && mends(changes, a, b)) {
-                        return true;
-                    }
-                }
-            }
-            return false;
+        private int changesOfRules() {
+            int number = trial.rule == setting.rule ? 0 : 1;
+            return trial.lending == setting.lending ? number : number + 1;
         }
 
         private boolean mends(int changes, int a, int b) {

@@ -692,6 +692,12 @@ final class Model {
         return Collections.emptyList();
     }
 
+    /** 1, if a step is work of a task that is. */
+    int slackable(int task, int step) {
+        List<Step> steps = text(task).steps;
+        return are().contains(task) && step < steps.size() && steps.get(step).kind == 'w' ? 1 : 0;
+    }
+
     int slack(int task, int step) {
         if (!in(task, 0, 7) || !in(step, 0, text(task).steps.size() - 1) || text(task).steps.get(step).kind != 'w') {
             return BAD;

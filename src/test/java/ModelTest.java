@@ -2,18 +2,21 @@
 public final class ModelTest {
     private static final int[] ODD = {-2147483648, -1000, -5, -4, -3, -2, -1, 0, 1, 2, 3, 4, 5, 6, 7, 8, 9, 10, 20, 59, 60, 61,
         99, 100, 119, 120, 121, 255, 256, 300, 1000, 2147483647};
-    private static final int RUNS = 700;
+    private static final int RUNS = 500;
 
     private final Due due = new Due("ModelTest");
     private long seed;
     private OneKnife knife;
     private Model model;
     private int run;
+    // Few things and many takings, so that there is much waiting.
+    private boolean busy;
     private int calls;
 
     public static void main(String[] args) {
         ModelTest test = new ModelTest();
-        for (int run = 0; run < RUNS; run++) {
+        int runs = args.length == 1 ? Integer.parseInt(args[0]) : RUNS;
+        for (int run = 0; run < runs; run++) {
             test.go(run);
         }
         test.due.end();
@@ -43,17 +46,21 @@ public final class ModelTest {
         calls = 0;
         knife = new OneKnife();
         model = new Model();
-        int things = upTo(6);
+        busy = number % 2 == 0;
+        int things = busy ? between(1, 3) : upTo(6);
         for (int i = 0; i < things; i++) {
             thing();
         }
-        int tasks = between(1, upTo(4) == 0 ? 8 : 5);
+        int tasks = between(busy ? 3 : 1, upTo(4) == 0 ? 8 : busy ? 4 : 5);
         for (int i = 0; i < tasks; i++) {
             text(upTo(6) == 0 ? upTo(8) : i);
         }
         while (calls < 500) {
             switch (upTo(10)) {
-                case 0: change(); break;
+                case 0:
+                    change();
+                    is("digest", knife.digest(), model.digest());
+                    break;
                 case 1: tasks(); break;
                 case 2: reckon(); break;
                 case 3: sheets(); sheets(); sheets(); break;
@@ -76,15 +83,15 @@ public final class ModelTest {
     private void text(int task) {
         is("wipe " + task, knife.wipe(task), model.wipe(task));
         StringBuilder text = new StringBuilder();
-        int span = upTo(4) == 0 ? between(1, 60) : between(8, 40);
+        int span = busy ? between(25, 60) : upTo(4) == 0 ? between(1, 60) : between(8, 40);
         int late = upTo(3) == 0 ? between(1, 99) : between(Math.min(99, span / 2 + 1), Math.min(99, span + 5));
         text.append("p").append(span).append(",d").append(late);
         text.append(",o").append(upTo(5) == 0 ? upTo(100) : upTo(10)).append(":");
-        int steps = between(1, 8);
+        int steps = between(1, busy ? 14 : 8);
         int has = 0;
         for (int k = 0; k < steps; k++) {
             int thing = model.things.isEmpty() ? 0 : upTo(model.things.size());
-            String step = "w" + (upTo(3) == 0 ? between(1, 9) : between(1, 3));
+            String step = "w" + (upTo(3) == 0 && !busy ? between(1, 9) : between(1, 3));
             if (!model.things.isEmpty() && upTo(2) == 0) {
                 step = ((has >> thing & 1) != 0 ? "g" : "t") + thing;
                 has ^= 1 << thing;
@@ -170,8 +177,8 @@ public final class ModelTest {
     }
 
     private void ask() {
-        int task = upTo(8);
-        int tick = upTo(model.ticks);
+        int task = upTo(upTo(3) == 0 ? 8 : 4);
+        int tick = upTo(upTo(3) == 0 ? model.ticks : Math.min(model.ticks, 30));
         int n = upTo(model.hands);
         int what = upTo(7);
         int i = upTo(8);
@@ -185,14 +192,15 @@ public final class ModelTest {
                 is("ring 0", knife.ring(0), model.ring(0));
                 is("ring 1", knife.ring(1), model.ring(1));
         }
-        if (upTo(30) == 0) {
-            is("digest", knife.digest(), model.digest());
-        }
     }
 
     private void reckon() {
         int task = upTo(8);
         int step = upTo(8);
+        for (int n = 0; n < 8 && model.slackable(task, step) != 1; n++) {
+            task = upTo(8);
+            step = upTo(8);
+        }
         int j = between(1, 3);
         switch (upTo(14)) {
             case 0: case 1: is("best 0", knife.best(0), model.best(0)); is("best 1", knife.best(1), model.best(1)); break;
