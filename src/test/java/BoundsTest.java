@@ -200,6 +200,19 @@ public final class BoundsTest {
         shed("of those that are", two, 0, 2);
         two.rule(3, 3);
         shed("what is due behind the run is not late", two, 0, 2);
+        OneKnife end = Due.with("p60,d5,o0:w9");
+        end.rule(3, 5);
+        shed("due at the end of the run", end, 1, 0);
+        end.rule(3, 4);
+        shed("due behind it", end, 0, 1);
+        OneKnife row = Due.with("p3,d5,o0:w4");
+        row.rule(3, 8);
+        shed("the second job is done as it is due", row, 0, 1);
+        row.rule(3, 10);
+        shed("the third one would be late behind the run", row, 0, 1);
+        row.rule(3, 11);
+        shed("it is due at the end", row, 1, 0);
+        shed("done in choosing as it is due", Due.withTools(1, "p60,d1,o0:w1,t0"), 0, 1);
         due.is("shed -1", two.shed(-1), -2);
         due.is("shed 2", two.shed(2), -2);
     }
@@ -222,6 +235,11 @@ public final class BoundsTest {
         for (int[] b : bad) {
             due.is("whatever", knife.whatever(0, b[0], b[1]), -2);
         }
+        OneKnife apart = new OneKnife();
+        Due.type(apart, 3, "p40,d3,o0:w2");
+        Due.type(apart, 6, "p40,d3,o0:w2");
+        due.is("only those that are begin later", apart.whatever(3, 1, 1), 3);
+        due.is("only those that are begin later", apart.whatever(6, 1, 0), 4);
         due.is("nobody, one way", new OneKnife().whatever(0, 3, 1), 0);
         due.is("all late", Due.with("p9,d1,o0:w2").whatever(0, 3, 1), 4);
         OneKnife five = Due.with("p9,d9,o0:w1", "p9,d9,o0:w1", "p9,d9,o0:w1", "p9,d9,o0:w1", "p9,d9,o0:w1");

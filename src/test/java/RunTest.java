@@ -12,6 +12,8 @@ public final class RunTest {
         lending();
         lendingAlongARow();
         lendingByEnd();
+        lendingThroughFire();
+        waitingForSome();
         upward();
         upwardOnAScale();
         fire();
@@ -53,6 +55,8 @@ public final class RunTest {
         states("by rank", knife, 2, "033331000");
         knife.set(0, 0, 8);
         first("like ranks", knife, "111002");
+        due.is("like ranks are not lesser", knife.told(0, 6), 0);
+        due.is("like ranks are not lesser", knife.told(2, 6), 0);
         knife.set(2, 0, 99);
         first("another rank", knife, "121100");
     }
@@ -171,6 +175,38 @@ public final class RunTest {
         knife.rule(1, 1);
         first("by end, lent", knife, "22201111-");
         due.is("by end, lent", knife.done(0, 0), 4);
+    }
+
+    private static void lendingThroughFire() {
+        // 0 has a fire, so it is asked ahead of 1 and waits for 3; when 1 waits for 0, 3 is lent the rank of 1 through 0.
+        OneKnife knife = new OneKnife();
+        knife.thing(2, 1);
+        knife.thing(0, 1);
+        Due.type(knife, 0, "p60,d60,o1:t0,w1,t1,w1");
+        Due.type(knife, 1, "p60,d60,o2:t0,w1");
+        Due.type(knife, 2, "p60,d60,o2:w3");
+        Due.type(knife, 3, "p60,d60,o0:t1,w6,g1");
+        knife.set(0, 0, 5);
+        knife.set(3, 0, 4);
+        knife.rule(1, 1);
+        first("through a fire", knife, "303333301222-");
+    }
+
+    private static void waitingForSome() {
+        // A scale of which one is left, but broken: 0 waits for nobody, and nothing is lent to 2, who has one.
+        OneKnife knife = new OneKnife();
+        knife.thing(1, 2);
+        knife.broken(0, 2, 10);
+        Due.type(knife, 0, "p60,d60,o2:t0,w1");
+        Due.type(knife, 1, "p60,d60,o3:w2");
+        Due.type(knife, 2, "p60,d60,o0:t0,w6");
+        knife.rule(1, 1);
+        first("broken, not taken", knife, "22211222---0-");
+        // 1 waits for 0, who has the thing it wants, and upward for 3, who has one that bars it: 3 goes ahead of 2.
+        OneKnife both = Due.withTools(3, "p60,d60,o1:t0,w1,t2,w1", "p60,d60,o3:t0,w1,g0,t1,w1", "p60,d60,o3:w3", "p60,d60,o0:t1,w6,g1");
+        both.broken(2, 0, 20);
+        both.rule(1, 2);
+        first("taken and upward", both, "3033333222-");
     }
 
     private static void upward() {
