@@ -55,7 +55,7 @@ public final class ModelTest {
         for (int i = 0; i < tasks; i++) {
             text(upTo(6) == 0 ? upTo(8) : i);
         }
-        while (calls < 500) {
+        while (calls < 480) {
             switch (upTo(10)) {
                 case 0:
                     change();
@@ -161,7 +161,7 @@ public final class ModelTest {
             default: {
                 if (upTo(6) == 0) {
                     thing();
-                } else if (calls < 430) {
+                } else if (calls < 420) {
                     text(upTo(8));
                 }
             }

@@ -302,7 +302,8 @@ public final class SheetsEdgesTest {
                 h = more(h, knife.told(i, what));
             }
         }
-        for (int t = 0; t < knife.count(7); t++) {
+        int ticks = knife.count(7);
+        for (int t = 0; t < ticks; t++) {
             h = more(h, knife.who(t, 0));
         }
         return more(more(more(h, knife.late()), knife.ring(0)), knife.ring(1));
@@ -313,13 +314,13 @@ public final class SheetsEdgesTest {
             + "TICKS; late(); ring() 0, 1; as longs that wrap.");
         OneKnife empty = new OneKnife();
         edges.is("of a new object", empty.digest(), digestOf(empty).longValue());
-        OneKnife knife = closed();
-        edges.is("there is a ring", knife.ring(1), 3);
-        edges.is("with a ring", knife.digest(), digestOf(knife).longValue());
-        for (int ticks : new int[] {1, 2, 119, 120}) {
-            knife.rule(3, ticks);
-            edges.is(ticks + " ticks", knife.digest(), digestOf(knife).longValue());
+        edges.is("there is a ring", closed().ring(1), 3);
+        for (int ticks : new int[] {1, 2, 77, 119, 120}) {
+            OneKnife ring = closed();
+            ring.rule(3, ticks);
+            edges.is(ticks + " ticks", ring.digest(), digestOf(ring).longValue());
         }
+        OneKnife knife = closed();
         long was = knife.digest();
         knife.lose(0);
         edges.is("a finding is not in it", knife.digest(), was);

@@ -235,7 +235,8 @@ public final class SheetsTest {
                 h = h * 31 + knife.told(i, what);
             }
         }
-        for (int t = 0; t < knife.count(7); t++) {
+        int ticks = knife.count(7);
+        for (int t = 0; t < ticks; t++) {
             h = h * 31 + knife.who(t, 0);
         }
         h = h * 31 + knife.late();
@@ -244,9 +245,9 @@ public final class SheetsTest {
     }
 
     private static void digests() {
+        long empty = new OneKnife().digest();
+        due.is("digest of a new one", empty, digestOf(new OneKnife()));
         OneKnife knife = new OneKnife();
-        long empty = knife.digest();
-        due.is("digest of a new one", empty, digestOf(knife));
         knife.lose(0);
         due.is("a finding is not in it", knife.digest(), empty);
         Due.type(knife, 0, "p9,d9,o0:w3");
