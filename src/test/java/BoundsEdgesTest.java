@@ -140,6 +140,8 @@ public final class BoundsEdgesTest {
         edges.is("no text", knife.bound(7), -3);
         edges.is("task -1", knife.bound(-1), -2);
         edges.is("task 8", knife.bound(8), -2);
+        OneKnife last = upward(Due.type(new OneKnife(), 7, W1));
+        edges.is("task 7", last.bound(7), 1);
 
         edges.says("HELD, as of BOUND. BAD; NOT.");
         edges.is("held", knife.held(0), 0);
@@ -148,6 +150,7 @@ public final class BoundsEdgesTest {
         edges.is("no text", knife.held(7), -3);
         edges.is("task -1", knife.held(-1), -2);
         edges.is("task 8", knife.held(8), -2);
+        edges.is("task 7", last.held(7), 0);
     }
 
     private static String order(OneKnife knife, int number) {
@@ -244,6 +247,7 @@ public final class BoundsEdgesTest {
         edges.is("a fault: no steps", knife.slack(1, 0), -2);
         edges.is("no text: no steps", knife.slack(7, 0), -2);
         edges.is("task -1", knife.slack(-1, 0), -2);
+        edges.is("task 7", Due.type(new OneKnife(), 7, "p60,d5,o0:w1").slack(7, 0), 4);
         edges.is("task 8", knife.slack(8, 0), -2);
         knife.drop(0, true);
         edges.is("dropped", knife.slack(0, 1), -3);

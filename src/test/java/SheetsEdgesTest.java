@@ -199,6 +199,10 @@ public final class SheetsEdgesTest {
         edges.is("rightward onto itself", items(knife, 0, 0, 5), "1 1 2 3 4");
         edges.is("leftward onto itself", knife.copy(0, 1, 0, 0, 4), 1);
         edges.is("leftward onto itself", items(knife, 0, 0, 5), "1 2 3 4 4");
+        knife.sheet(3, 0, 2);
+        edges.is("to sheet 3", knife.copy(0, 2, 3, 0, 2), 1);
+        edges.is("from sheet 3", knife.copy(3, 1, 0, 0, 1), 1);
+        edges.is("to sheet 3 and back", items(knife, 3, 0, 2) + " " + items(knife, 0, 0, 5), "3 4 4 2 3 4 4");
     }
 
     private static void copiesNotSoMany() {
